@@ -93,7 +93,7 @@ public final class SkyStones {
     private static final int FACT_VOID = 4;
 
     private final Tape tape = new Tape();
-        private Told told = new Told();
+    private Told told = new Told();
     private Told spare = new Told();
     private final Reader reader = new Reader(tape, spare);
     private final Survey survey = new Survey();
@@ -583,18 +583,20 @@ public final class SkyStones {
         if (line < 0 || line >= LINE_NUMBERS || !isYear(year) || !isKnown(n)) {
             return NONE;
         }
-        int everyPlace = (1 << told.places) - 1;
-        turnAll(everyPlace, year, n, NONE);
+        ground.know(told, survey, n);
         if (!ground.joins(line)) {
             return 0;
         }
         if (!ground.holds(told, line, NONE)) {
             return 1;
         }
+        int everyPlace = (1 << told.places) - 1;
         int way = ground.bearingOf(line);
+        sky.watch(told, year);
         if (!strikes(way, everyPlace, false)) {
             return 2;
         }
+        turnAll(everyPlace, year, n, NONE);
         if (turns.asManyAsUnturned() > TOO_MANY_TURNS) {
             return 3;
         }

@@ -9,7 +9,8 @@ final class Check {
         asked++;
         if (got != want) {
             wrong++;
-            System.out.println(what + ": answered " + got + ", due is " + want);
+            String call = what.length() > 400 ? what.substring(0, 100) + " .. " + what.substring(what.length() - 100) : what;
+            System.out.println(call + ": answered " + got + ", due is " + want);
         }
     }
 
