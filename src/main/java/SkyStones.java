@@ -285,13 +285,7 @@ public final class SkyStones {
             return NONE;
         }
         lookAt(year, n, NONE);
-        int total = 0;
-        for (int i = 0; i < ground.chosen; i++) {
-            if (strikes(Compass.turned(ground.way[i], t), set, sure)) {
-                total++;
-            }
-        }
-        return total;
+        return hitsTurned(set, t, sure);
     }
 
     public int hitAt(int set, int year, boolean sure, int n, int i) {
@@ -723,14 +717,18 @@ public final class SkyStones {
         return (sky.struck(way, told.near, sure) & set) != 0;
     }
 
-    private int hitsNow(int set) {
+    private int hitsTurned(int set, int t, boolean sure) {
         int total = 0;
         for (int i = 0; i < ground.chosen; i++) {
-            if (strikes(ground.way[i], set, false)) {
+            if (strikes(Compass.turned(ground.way[i], t), set, sure)) {
                 total++;
             }
         }
         return total;
+    }
+
+    private int hitsNow(int set) {
+        return hitsTurned(set, 0, false);
     }
 
     private int hitsIn(int set, int year) {
