@@ -9,13 +9,20 @@ final class Check {
         asked++;
         if (got != want) {
             wrong++;
-            String call = what.length() > 400 ? what.substring(0, 100) + " .. " + what.substring(what.length() - 100) : what;
-            System.out.println(call + ": answered " + got + ", due is " + want);
+            System.out.println(shorter(what) + ": answered " + got + ", due is " + want);
         }
+    }
+
+    static String shorter(String what) {
+        return what.length() > 400 ? what.substring(0, 100) + " .. " + what.substring(what.length() - 100) : what;
     }
 
     void due(String what, boolean got, boolean want) {
         due(what, got ? 1 : 0, want ? 1 : 0);
+    }
+
+    boolean isRight() {
+        return wrong == 0 && asked > 0;
     }
 
     /** Ends the test: with exit code 1 if an answer was not the one that was due. */
