@@ -21,6 +21,10 @@ final class Check {
         due(what, got ? 1 : 0, want ? 1 : 0);
     }
 
+    void due(String what, String got, String want) {
+        due(what + " (" + got + " for " + want + ")", got.equals(want), true);
+    }
+
     boolean isRight() {
         return wrong == 0 && asked > 0;
     }
